@@ -306,6 +306,25 @@ public final class PromiseTest {
                 due("atom " + b + " from all but atom " + a, y.classically(15 - (1 << a), b), a == b ? 0 : 1);
             }
         }
+        everyChoiceCounts();
+    }
+
+    // The atoms and the negations of the others pin down one choice, and each formula is as it is there.
+    private static void everyChoiceCounts() {
+        ConstructiveDesk x = new ConstructiveDesk();
+        for (int a = 0; a < 4; a++) {
+            x.atom(a);
+        }
+        x.falsum();
+        for (int a = 0; a < 4; a++) {
+            due("not atom " + a, x.join(IMPLIES, a, 4), 5 + a);
+        }
+        for (int choice = 0; choice < 16; choice++) {
+            int set = choice + (15 - choice) * 32;
+            for (int c = 0; c < 9; c++) {
+                due("classically(" + set + ", " + c + ")", x.classically(set, c), set >> c & 1);
+            }
+        }
     }
 
     private static void alike() {
