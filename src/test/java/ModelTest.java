@@ -279,6 +279,10 @@ public final class ModelTest {
     }
 
     private static int drawSet() {
+        // A set too small or too large is not refused; its bits beyond the list are not looked at.
+        if (draw(16) == 0) {
+            return draw(6144) * (draw(2) == 0 ? 1 : -1);
+        }
         int kind = draw(4);
         if (kind == 0) {
             return draw(2048);

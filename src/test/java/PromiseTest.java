@@ -36,8 +36,6 @@ public final class PromiseTest {
         worlds();
         against();
         closedSets();
-        refusalsChangeNothing();
-        setsOutOfRange();
         System.out.println(wrong == 0 ? "all answers are as due" : wrong + " answers are not as due");
         if (wrong != 0) {
             System.exit(1);
@@ -477,43 +475,5 @@ public final class PromiseTest {
         due("closedSets() of falsum", y.closedSets(), 2);
         y.join(IMPLIES, 0, 0);
         due("closedSets() with falsum implies falsum", y.closedSets(), 2);
-    }
-
-    private static void refusalsChangeNothing() {
-        promise = 0;
-        // Two objects, and every fifth set, so that neither is asked more than 512 times.
-        ConstructiveDesk x = full();
-        ConstructiveDesk y = full();
-        y.atom(-1);
-        y.atom(3);
-        y.falsum();
-        y.join(3, 0, 0);
-        y.join(AND, 0, 11);
-        y.join(AND, 10, 10);
-        y.follows(0, 11);
-        y.classically(0, -1);
-        y.alike(0, 11);
-        y.enough(0, 11);
-        y.against(0, 11);
-        due("size()", y.size(), 11);
-        for (int set = 0; set < 2048; set += 5) {
-            due("all(" + set + ")", y.all(set), x.all(set));
-        }
-    }
-
-    // No promise names a code for these, so the bits that are not in the list are not looked at.
-    private static void setsOutOfRange() {
-        promise = 0;
-        ConstructiveDesk x = sample();
-        due("all(least)", x.all(Integer.MIN_VALUE), 0);
-        due("all(-1)", x.all(-1), 127);
-        due("all(2048 + 1)", x.all(2049), 9);
-        due("follows(least, 0)", x.follows(Integer.MIN_VALUE, 0), 0);
-        due("classically(least, 0)", x.classically(Integer.MIN_VALUE, 0), 0);
-        due("classically(-1, 0)", x.classically(-1, 0), 1);
-        due("enough(-128, 0)", x.enough(-128, 0), NONE);
-        due("saturated(greatest)", x.saturated(Integer.MAX_VALUE), 0);
-        due("saturated(-128)", x.saturated(-128), 1);
-        due("against(-128, 0)", x.against(-128, 0), 0);
     }
 }
